@@ -225,8 +225,10 @@ public final class SunnyPans {
     public int dries(int x, int y, int hour) throws NoSuchElementException {
         needPlace(x, y);
         needHour(hour);
+        Pans now = stand.now;
         int p = placeOf(x, y);
-        return rateOf(stand.now, p, stand.now.brine[p], hour, stand.now.day);
+        int reach = plan.reach[hour];
+        return rule.rate(now.brine[p], now.salt[p], reach, plan.side[hour], hour, now.day, p);
     }
 
     public int would(int brine, int salt, int reach, int side, int hour, int day, int col, int row)
@@ -265,7 +267,8 @@ public final class SunnyPans {
         needPlace(x, y);
         needHour(hour);
         int p = placeOf(x, y);
-        return plan.shadowOf(p, stand.now.grams[p], hour);
+        int grams = stand.now.grams[p];
+        return grams > 0 ? Long.bitCount(plan.shadedBy(p, grams, hour)) - 1 : 0;
     }
 
     public int ready(int x, int y, int row) throws NoSuchElementException {
@@ -456,17 +459,11 @@ public final class SunnyPans {
     }
 
     private int lossOf(Pans pans, int p, int brine, int hour, int day) {
-        if (brine == 0 || has(pans.shadeAt(plan, hour), p)) {
+        if (brine == 0 || hour < 0 || hour >= plan.hours || has(pans.shadeAt(hour), p)) {
             return 0;
         }
-        return Math.min(brine, rateOf(pans, p, brine, hour, day));
-    }
-
-    private int rateOf(Pans pans, int p, int brine, int hour, int day) {
-        if (hour < 0 || hour >= plan.hours) {
-            return 0;
-        }
-        return rule.rate(brine, pans.salt[p], plan.reach[hour], plan.side[hour], hour, day, p);
+        int reach = plan.reach[hour];
+        return Math.min(brine, rule.rate(brine, pans.salt[p], reach, plan.side[hour], hour, day, p));
     }
 
     private void passHour(Pans pans) {
@@ -530,7 +527,13 @@ public final class SunnyPans {
         if (what == 0) {
             return Long.bitCount(fitting);
         }
-        return fitting == 0 ? NONE : tellPlace(Long.numberOfTrailingZeros(fitting));
+        best.clear();
+        for (int p = 0; p < PLACES && best.found == NONE; p++) {
+            if (has(fitting, p)) {
+                best.offerLeast(p, 0);
+            }
+        }
+        return best.placeOrAmount(0);
     }
 
     public int look(int z, int what) throws IllegalArgumentException {
@@ -663,7 +666,7 @@ public final class SunnyPans {
             if (draw(CHANCES) < q) {
                 trial.pour(placeOf(x, y), 1 + draw(99));
             } else {
-                trial.haul(placeOf(x, y));
+                trial.haul(plan, placeOf(x, y));
             }
             if (plan.hours > 0) {
                 passHour(trial);
@@ -790,11 +793,11 @@ public final class SunnyPans {
             case LET:
                 return now.pour(place, amount);
             case RAKE:
-                return now.scrape(place, other);
+                return now.scrape(plan, place, other);
             case CART:
-                return now.haul(place);
+                return now.haul(plan, place);
             case RAIN:
-                now.wet(plan.places, amount);
+                now.wet(plan, amount);
                 return true;
             default:
                 if (plan.hours == 0 || now.day >= LAST_DAY) {
@@ -816,7 +819,7 @@ public final class SunnyPans {
     }
 
     private long shadeNow(int hour) {
-        return stand.now.shadeAt(plan, hour);
+        return stand.now.shadeAt(hour);
     }
 
     private static int placeOf(int x, int y) {
@@ -923,7 +926,7 @@ public final class SunnyPans {
         }
 
         void open(int n) {
-            end = Math.min(n, bytes.length);
+            end = Math.max(0, Math.min(n, bytes.length));
             at = 0;
             size = 0;
             fault = 0;
@@ -937,6 +940,7 @@ public final class SunnyPans {
             }
         }
 
+        /** Faults what stands next, where nothing like it can. */
         void failHere() {
             skipBlanks();
             fail(CANT_STAND, at);
@@ -965,14 +969,14 @@ public final class SunnyPans {
             if (sees(sign)) {
                 at++;
             } else {
-                failHere();
+                fail(CANT_STAND, at);
             }
         }
 
         /** The number that stands next; the least one, if there is a fault. */
         int number(int least, int most) {
             if (!seesDigit()) {
-                failHere();
+                fail(CANT_STAND, at);
                 return least;
             }
             numberFrom = at;
@@ -1021,21 +1025,21 @@ public final class SunnyPans {
         }
 
         private void skipBlanks() {
-            while (at < end && peek() == ' ') {
+            while (at < end && bytes[at] == ' ') {
                 at++;
             }
         }
 
         private int peek() {
-            return at >= 0 && at < end && at < bytes.length ? bytes[at] : NONE;
+            return at < end ? bytes[at] : NONE;
         }
 
         private static boolean isDigit(int c) {
-            return within(c, '0', '9');
+            return c >= '0' && c <= '9';
         }
 
         private static boolean isLetter(int c) {
-            return within(c, 'a', 'z');
+            return c >= 'a' && c <= 'z';
         }
     }
 
@@ -1134,30 +1138,22 @@ public final class SunnyPans {
             return x >= 0 && x < wide && y >= 0 && y < high;
         }
 
-        /** How many places within the works the shadow of a heap lies on. */
-        int shadowOf(int place, int grams, int hour) {
+        /** The places that a heap brings into shade: its own, and those that its shadow lies on. */
+        long shadedBy(int place, int grams, int hour) {
+            long shaded = bit(place);
             if (hour < 0 || hour >= hours) {
-                return 0;
+                return shaded;
             }
             int longest = heightOf(grams) * reach[hour] / 10;
             int x = place % ROW;
             int y = place / ROW;
-            int far = 0;
             for (int k = 1; k <= longest && k < ROW; k++) {
-                if (!holds(x - k * EAST[side[hour]], y - k * SOUTH[side[hour]])) {
+                x -= EAST[side[hour]];
+                y -= SOUTH[side[hour]];
+                if (!holds(x, y)) {
                     break;
                 }
-                far = k;
-            }
-            return far;
-        }
-
-        /** The places that a heap brings into shade: its own, and those that its shadow lies on. */
-        long shadedBy(int place, int grams, int hour) {
-            int far = shadowOf(place, grams, hour);
-            long shaded = bit(place);
-            for (int k = 1; k <= far; k++) {
-                shaded |= bit(place - k * placeOf(EAST[side[hour]], SOUTH[side[hour]]));
+                shaded |= bit(placeOf(x, y));
             }
             return shaded;
         }
@@ -1183,14 +1179,11 @@ public final class SunnyPans {
         private int size;
 
         Law() {
-            setDefault();
+            reset();
         }
 
+        /** The law without a text: 10 + reach / 4. */
         void reset() {
-            setDefault();
-        }
-
-        private void setDefault() {
             size = 0;
             emit(10);
             emit(REACH);
@@ -1320,25 +1313,18 @@ public final class SunnyPans {
             named[5] = day;
             named[6] = place % ROW;
             named[7] = place / ROW;
-            return Math.max(0, Math.min(MOST_DRIES, workOut()));
-        }
-
-        private int workOut() {
             int top = 0;
             for (int i = 0; i < size && i < code.length; i++) {
                 int what = code[i];
-                if (what >= JOINS) {
-                    if (top < 2) {
-                        return 0;
-                    }
+                if (what >= JOINS && top >= 2) {
                     top--;
                     stack[top - 1] = join(what, stack[top - 1], stack[top]);
-                } else if (top < stack.length) {
+                } else if (what < JOINS && top < stack.length) {
                     stack[top] = what >= NAMES ? named[what - NAMES] : what;
                     top++;
                 }
             }
-            return top > 0 ? stack[0] : 0;
+            return Math.max(0, Math.min(MOST_DRIES, stack[0]));
         }
 
         private static int join(int how, int a, int b) {
@@ -1508,9 +1494,8 @@ public final class SunnyPans {
         int store;
         int day;
         int next;
-        // Shades hang on the heaps alone, so they are kept until a heap changes.
+        // Which places are in shade at each hour; it hangs on the heaps alone, so it is learnt when one changes.
         private final long[] shades = new long[MOST_HOURS];
-        private boolean shadesKnown;
 
         void copyFrom(Pans from) {
             System.arraycopy(from.brine, 0, brine, 0, PLACES);
@@ -1519,7 +1504,7 @@ public final class SunnyPans {
             store = from.store;
             day = from.day;
             next = from.next;
-            shadesKnown = false;
+            System.arraycopy(from.shades, 0, shades, 0, MOST_HOURS);
         }
 
         void start(Plan plan) {
@@ -1529,7 +1514,7 @@ public final class SunnyPans {
             store = 0;
             day = 0;
             next = 0;
-            shadesKnown = false;
+            learnShades(plan);
         }
 
         long brinePlaces() {
@@ -1570,54 +1555,50 @@ public final class SunnyPans {
                 && brine[to] == 0 && salt[to] == 0 && grams[to] + salt[from] <= MOST_HELD;
         }
 
-        boolean scrape(int from, int to) {
+        boolean scrape(Plan plan, int from, int to) {
             if (!canScrape(from, to)) {
                 return false;
             }
             grams[to] += salt[from];
             salt[from] = 0;
-            shadesKnown = false;
+            learnShades(plan);
             return true;
         }
 
-        boolean haul(int p) {
+        boolean haul(Plan plan, int p) {
             if (grams[p] == 0) {
                 return false;
             }
             store += grams[p];
             grams[p] = 0;
-            shadesKnown = false;
+            learnShades(plan);
             return true;
         }
 
-        void wet(long places, int n) {
+        void wet(Plan plan, int n) {
             for (int p = 0; p < PLACES; p++) {
                 if (grams[p] > 0) {
                     grams[p] = Math.max(0, grams[p] - n);
-                } else if (has(places, p)) {
+                } else if (has(plan.places, p)) {
                     brine[p] = Math.min(MOST_HELD, brine[p] + n);
                 }
             }
-            shadesKnown = false;
+            learnShades(plan);
         }
 
-        long shadeAt(Plan plan, int hour) {
-            if (!shadesKnown) {
-                learnShades(plan);
-            }
+        long shadeAt(int hour) {
             return hour >= 0 && hour < MOST_HOURS ? shades[hour] : 0;
         }
 
         private void learnShades(Plan plan) {
             for (int hour = 0; hour < MOST_HOURS; hour++) {
                 shades[hour] = 0;
-                for (int p = 0; p < PLACES; p++) {
-                    if (grams[p] > 0) {
-                        shades[hour] |= plan.shadedBy(p, grams[p], hour);
-                    }
+            }
+            for (int p = 0; p < PLACES; p++) {
+                for (int hour = 0; hour < plan.hours && grams[p] > 0; hour++) {
+                    shades[hour] |= plan.shadedBy(p, grams[p], hour);
                 }
             }
-            shadesKnown = true;
         }
     }
 
@@ -1680,7 +1661,7 @@ public final class SunnyPans {
             for (int p = 0; p < PLACES; p++) {
                 touched[p] = 0;
                 for (int hour = 0; hour < plan.hours && has(sites, p); hour++) {
-                    added[p][hour] = plan.shadedBy(p, grams, hour) & ~now.shadeAt(plan, hour);
+                    added[p][hour] = plan.shadedBy(p, grams, hour) & ~now.shadeAt(hour);
                     touched[p] |= added[p][hour];
                 }
             }
