@@ -1469,10 +1469,8 @@ public final class SunnyPans {
 
         /** What comes when an again is come to. */
         int behindAgain(int i) {
-            int close = mate[i];
-            // An again of nothing is passed at once: none of its turns would begin a step.
-            if (amount[i] == 0 || close == i + 1) {
-                return close + 1;
+            if (amount[i] == 0) {
+                return mate[i] + 1;
             }
             left[i] = amount[i];
             return i + 1;

@@ -1413,7 +1413,23 @@ public final class ModelTest {
             return b.toString();
         }
 
+        String deepLaw() {
+            int deep = between(4, 8);
+            String law = new String[] {"brine", "7", "day + 2", "salt % 9"}[below(4)];
+            for (int i = 0; i < deep; i++) {
+                law = below(3) > 0 ? "(" + law + ")" : "most[" + law + "," + below(9) + "]";
+            }
+            return law + (below(2) == 0 ? "" : "+(((((col)))))");
+        }
+
         String shortLaw() {
+            if (below(8) == 0) {
+                return deepLaw();
+            }
+            if (below(4) == 0) {
+                // Rates that change from hour to hour and from pan to pan, but bring neither 0 nor 99 alone.
+                return "least[brine/" + between(2, 9) + "+1,reach]+(salt+hour*" + below(9) + "+day+col*3)%" + between(2, 20);
+            }
             String law = lawText(0);
             for (int i = 0; i < 50 && law.length() > 150; i++) {
                 law = lawText(0);
@@ -1476,7 +1492,11 @@ public final class ModelTest {
                 case 1: return "again 10[again 2[again 1[again 3[again 2[again 2[hour;cart 0 0;];];];];];];";
                 case 2: return "again " + below(60) + "[again 60[again 60[again 60[again 60[again 60[];];];];];];hour;";
                 case 3: return "again 12[let " + below(model.w) + " " + below(model.h) + " 999;];";
-                case 4: return "again " + between(1, 60) + "[hour;];";
+                case 4: {
+                    int deep = between(1, 8);
+                    return below(2) == 0 ? "again " + between(1, 60) + "[hour;];"
+                        : "again 2[".repeat(deep) + "rain 1;" + "];".repeat(deep);
+                }
                 case 5:
                 case 6: return rakes();
                 case 7: return "rain " + between(1, 99) + ";" + rakes();
@@ -1554,7 +1574,9 @@ public final class ModelTest {
 
         void step() {
             int what = below(100);
-            if (what < 2) {
+            if (what < 2 && style == 4) {
+                text("work", workText());
+            } else if (what < 2) {
                 text("works", spoiled(worksText(), 60));
             } else if (what < 5) {
                 text("law", spoiled(shortLaw(), 40));
@@ -1563,7 +1585,7 @@ public final class ModelTest {
                 call("told", 10);
             } else if (what < 18) {
                 text("book", spoiled(bookText(), 30));
-            } else if (what < 20) {
+            } else if (what < 20 && (style != 4 || below(9) == 0)) {
                 call("undo");
                 call("told", 10);
             } else if (what < 22) {

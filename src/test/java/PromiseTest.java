@@ -274,6 +274,8 @@ public final class PromiseTest {
         begin(3);
         faulty(2, 5, works("size 0 1;"));
         faulty(2, 7, works("size 1 9;"));
+        faulty(2, 7, works("size 1 0;"));
+        faulty(2, 5, works("size 9 1;"));
         faulty(2, 5, works("size 99999999999999999999 1;"));
         faulty(2, 5, works("size 4294967297 1;"));
         faulty(2, 5, works("hour 8 0;"));
