@@ -196,10 +196,10 @@ public final class EdgeTest {
         read(s, "works", "size 3 2;hour 2 10;hour 6 20;hour 0 0;"
             + "pan 0 0 100 20;pan 1 0 30 10;pan 2 1 0 50;heap 1 1 120;");
         read(s, "law", "9+reach/5");
-        read(s, "book", "0 0 63;");
+        read(s, "book", "0 0 61;");
         read(s, "work", "hour;cart 0 0;");
         s.image();
-        read(s, "work", "rain 5;cart 0 0;cart 0 0;");
+        read(s, "work", "let 0 0 5;cart 0 0;cart 0 0;");
         read(s, "law", "1+*");
         return s;
     }
@@ -1379,6 +1379,28 @@ public final class EdgeTest {
         due(3, x.told(6));
         due(1, x.loss(0));
 
+        says("DRIES: 0 at least, 99 at most", "size 2 1;hour 0 0;pan 0 0 100 0;pan 1 0 99 0;");
+        law("0-5");
+        due(0, x.dries(0, 0, 0));
+        due(0, x.loss(0));
+        due(1, work("hour;"));
+        due(199, x.told(5));
+        due(199, x.ahead(9, 0));
+        law("100");
+        due(99, x.dries(0, 0, 0));
+        due(198, x.loss(0));
+        due(1, work("hour;"));
+        due(1, x.pan(0, 0, 0));
+        due(0, x.pan(1, 0, 0));
+
+        says("DRIES of the PAN at an HOUR, as all is now (in SHADE or not)",
+            "size 3 1;hour 2 10;pan 0 0 50 7;heap 1 0 9;pan 2 0 30 6;");
+        law("brine+salt");
+        due(57, x.dries(0, 0, 0));
+        due(0, x.dries(1, 0, 0));
+        due(36, x.dries(2, 0, 0));
+        due(30, x.loss(0));
+
         says("not in SHADE at the next HOUR", "size 3 1;hour 2 10;hour 6 10;pan 0 0 50 0;pan 2 0 50 0;heap 1 0 9;");
         law("5");
         work("hour;");
@@ -1797,6 +1819,9 @@ public final class EdgeTest {
         book(EIGHT);
         due(-1, x.look(9, 0));
         due(-1, x.look(9, 1));
+        works("size 2 1;heap 0 0 9;");
+        due(0, x.look(9, 0));
+        due(1, x.look(9, 1));
         works("size 1 1;");
         due(0, x.look(9, 0));
         due(1, x.look(9, 1));
@@ -1895,6 +1920,18 @@ public final class EdgeTest {
             due(88 + 87, x.summer(seed, 2, 9, 0));
             due(62, x.summer(seed, 2, 9, 3));
         }
+
+        // by the seed 0 cart 0 4 (4 by 16), then 22117 and 3498: cart 5 2; a let takes one number more
+        works("size 8 8;heap 5 2 7;heap 2 7 5;");
+        due(7, x.summer(0, 2, 0, 2));
+        due(0, x.summer(0, 1, 0, 2));
+        works("size 8 8;");
+        due(41, x.summer(0, 1, 5, 0));
+        due(82, x.summer(0, 2, 16, 0));
+        works("size 8 8;heap 2 7 5;heap 0 4 9;");
+        due(0, x.summer(0, 2, 16, 0));
+        due(0, x.summer(0, 2, 14, 2));
+        due(5, x.summer(0, 2, 13, 2));
 
         says("(each, if it can be done)", "size 1 1;heap 0 0 9;");
         due(0, x.summer(0, 96, 16, 0));
@@ -2006,8 +2043,11 @@ public final class EdgeTest {
     private static void worksForgets() {
         says("works: (DAY 0; no LAW, BOOK, IMAGES, nothing to undo)");
         x = richWithoutTape();
+        // the line of its book holds with a heap of 10 grams at 2, 0 or at 0, 1; with one of 60 at 0, 1 alone
+        due(2, x.fits(10, 0));
+        due(10, x.fits(60, 1));
         work("cart 1 1;");
-        due(115, x.told(8));
+        due(120, x.told(8));
         put(x, "rain 7;");
         due(0, x.works(0));
         int[] want = {4, 4, 0, 0, -1, 0, 0, 0, 0, 0, 0, 0, 0};
@@ -2242,6 +2282,12 @@ public final class EdgeTest {
         due(0, x.restore());
         due(1, x.status(0));
         due(2, x.status(1));
+        works("");
+        works("x");
+        work("");
+        x.undo();
+        due(1, x.status(0));
+        due(2, x.status(1));
     }
 
     private static void counts() {
@@ -2368,6 +2414,18 @@ public final class EdgeTest {
 
     private static void would() {
         says("would: brine, salt (0 to 9,999 both), reach (0 to 40), side (0 to 7), hour (0 to 9), day (0 to 400)");
+        law("brine-999*10+(salt-999*10)+reach-40+(side-7)+(hour-9)+(day-400)+col-7+row");
+        due(25, x.would(9_999, 9_999, 40, 7, 9, 400, 7, 7));
+        due(24, x.would(9_998, 9_999, 40, 7, 9, 400, 7, 7));
+        due(24, x.would(9_999, 9_998, 40, 7, 9, 400, 7, 7));
+        due(24, x.would(9_999, 9_999, 39, 7, 9, 400, 7, 7));
+        due(24, x.would(9_999, 9_999, 40, 6, 9, 400, 7, 7));
+        due(24, x.would(9_999, 9_999, 40, 7, 8, 400, 7, 7));
+        due(24, x.would(9_999, 9_999, 40, 7, 9, 399, 7, 7));
+        due(24, x.would(9_999, 9_999, 40, 7, 9, 400, 6, 7));
+        due(24, x.would(9_999, 9_999, 40, 7, 9, 400, 7, 6));
+        law("brine+salt+reach+side+hour+day+col+row");
+        due(0, x.would(0, 0, 0, 0, 0, 0, 0, 0));
         Make[] makes = {EdgeTest::rich, EdgeTest::withoutHours};
         for (Make make : makes) {
             limits(BAD, make, 0, 9_999, (s, v) -> s.would(v, 0, 0, 0, 0, 0, 0, 0));
