@@ -1175,7 +1175,7 @@ public final class SunnyPans {
 
         private final int[] code = new int[MOST_LAW];
         private final int[] stack = new int[MOST_LAW];
-        private final int[] named = new int[ROW];
+        private final int[] named = new int[JOINS - NAMES];
         private int size;
 
         Law() {
@@ -1479,6 +1479,9 @@ public final class SunnyPans {
         /** What comes when the end of an again's steps is come to. */
         int behindClose(int i) {
             int again = mate[i];
+            if (!isAt(again)) {
+                return i + 1;
+            }
             left[again]--;
             return left[again] > 0 ? again + 1 : i + 1;
         }
@@ -1593,7 +1596,7 @@ public final class SunnyPans {
                 shades[hour] = 0;
             }
             for (int p = 0; p < PLACES; p++) {
-                for (int hour = 0; hour < plan.hours && grams[p] > 0; hour++) {
+                for (int hour = 0; hour < plan.hours && hour < MOST_HOURS && grams[p] > 0; hour++) {
                     shades[hour] |= plan.shadedBy(p, grams[p], hour);
                 }
             }
@@ -1658,7 +1661,7 @@ public final class SunnyPans {
         void lay(Plan plan, Pans now, long sites, int grams) {
             for (int p = 0; p < PLACES; p++) {
                 touched[p] = 0;
-                for (int hour = 0; hour < plan.hours && has(sites, p); hour++) {
+                for (int hour = 0; hour < plan.hours && hour < MOST_HOURS && has(sites, p); hour++) {
                     added[p][hour] = plan.shadedBy(p, grams, hour) & ~now.shadeAt(hour);
                     touched[p] |= added[p][hour];
                 }
